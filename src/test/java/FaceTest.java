@@ -1,0 +1,89 @@
+import java.io.IOException;
+import java.lang.reflect.Field;
+import java.lang.reflect.Method;
+import java.lang.reflect.Modifier;
+import java.nio.file.Files;
+import java.nio.file.Path;
+import java.util.Arrays;
+import java.util.TreeSet;
+import java.util.regex.Pattern;
+
+/** The public face, the constants, and what of LANGUAGE.md a text search can see. */
+public final class FaceTest {
+    private static final String[] FACE = {"int day(int)", "int feed(long,int)", "int rule()", "int change(int,int)",
+        "int told(int,int,int)", "int paper(int,int)", "int shown(int,boolean)", "int of(int,int)",
+        "int follows(int,int,int)", "int many(int)", "int proof(int)", "int step(int,int,int,int,int,int,int)",
+        "int lacks(int,int,int)", "int says(int,int,int)", "int check(int,int)", "int leans(int)", "int hole(int,int)",
+        "int fill(int,int)", "int act(int,int,int)", "int as(int,int)", "int title(int)", "int stand(int,int)",
+        "int fall(int)", "int carry(int,int)", "int clash(int,int)", "int every(int)", "int enough(int,int)",
+        "int could(int,int)", "int tactic()", "int run(int,int,int)", "int found(int)", "int image()", "int undo()",
+        "int count(int)"};
+    private static final String[] BANNED = {"throw", "try", "catch", "finally", "synchronized", "assert", "hashCode",
+        "toString", "->", "::", "@", "Exception", "System\\.(?!arraycopy)", "Exact\\("};
+
+    public static void main(String[] args) throws IOException {
+        constants();
+        face();
+        source();
+        Due.end();
+    }
+
+    private static void constants() {
+        Due.is("NONE", DeedProofs.NONE, -1);
+        Due.is("BAD", DeedProofs.BAD, -2);
+        Due.is("STATE", DeedProofs.STATE, -3);
+        Due.is("FULL", DeedProofs.FULL, -4);
+    }
+
+    private static void face() {
+        TreeSet<String> due = new TreeSet<>(Arrays.asList(FACE));
+        TreeSet<String> names = new TreeSet<>();
+        TreeSet<String> seen = new TreeSet<>();
+        for (String call : FACE) {
+            names.add(call.substring(4, call.indexOf('(')));
+        }
+        for (Method method : DeedProofs.class.getDeclaredMethods()) {
+            if (!Modifier.isPrivate(method.getModifiers())) {
+                String types = Arrays.toString(method.getParameterTypes()).replaceAll("[\\[\\] ]", "");
+                seen.add(method.getReturnType() + " " + method.getName() + "(" + types + ")");
+            } else {
+                Due.is("private " + method.getName(), names.contains(method.getName()) ? 1 : 0, 0);
+            }
+        }
+        Due.is("the face is " + seen, seen.equals(due) ? 1 : 0, 1);
+        Due.is("constructors", DeedProofs.class.getDeclaredConstructors().length, 1);
+        Due.is("the class is final", Modifier.isFinal(DeedProofs.class.getModifiers()) ? 1 : 0, 1);
+        int open = 0;
+        for (Field field : DeedProofs.class.getDeclaredFields()) {
+            open += Modifier.isPrivate(field.getModifiers()) ? 0 : 1;
+            boolean fixed = !Modifier.isStatic(field.getModifiers()) || Modifier.isFinal(field.getModifiers());
+            Due.is("static " + field.getName() + " is final", fixed ? 1 : 0, 1);
+        }
+        Due.is("fields that are not private", open, 4);
+        for (Class<?> inside : DeedProofs.class.getDeclaredClasses()) {
+            Due.is(inside + " is static", Modifier.isStatic(inside.getModifiers()) ? 1 : 0, 1);
+            for (Method method : inside.getDeclaredMethods()) {
+                Due.is(inside + " " + method.getName(), names.contains(method.getName()) ? 1 : 0, 0);
+            }
+        }
+        Due.is("classes", DeedProofs.class.getDeclaredClasses().length <= 11 ? 1 : 0, 1);
+    }
+
+    private static void source() throws IOException {
+        String text = Files.readString(Path.of("src/main/java/DeedProofs.java"));
+        String code = text.replaceAll("(?s)/\\*.*?\\*/", "").replaceAll("//[^\n]*", "");
+        for (String word : BANNED) {
+            boolean isWord = Character.isLetter(word.charAt(0)) && Character.isLetter(word.charAt(word.length() - 1));
+            boolean there = Pattern.compile(isWord ? "\\b" + word + "\\b" : word).matcher(code).find();
+            Due.is("the code has " + word, there ? 1 : 0, 0);
+        }
+        int longest = 0;
+        int lines = 0;
+        for (String line : code.split("\n")) {
+            boolean head = line.matches("    (    )?(public|private|int|boolean|void).*\\{");
+            lines = head ? 0 : lines + 1;
+            longest = line.matches("    (    )?\\}") ? Math.max(longest, lines) : longest;
+        }
+        Due.is("the longest method has " + longest + " lines", longest <= 60 ? 1 : 0, 1);
+    }
+}
