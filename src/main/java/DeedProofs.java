@@ -1183,7 +1183,7 @@ public final class DeedProofs {
         }
 
         private void arrive(int fact, int by) {
-            if (cost[fact] < 0) {
+            if (cost[fact] < 0 && size < FACTS) {
                 reached[size] = fact;
                 size++;
                 cost[fact] = by;

@@ -7,6 +7,7 @@ public final class PapersTest {
         testsAndLetters();
         largestSize();
         byDays();
+        allFacts();
         Due.end();
     }
 
@@ -67,13 +68,15 @@ public final class PapersTest {
         Due.rule(office, "h(0,0,0)>m(0,0,0)");
         Due.rule(office, "m(0,0,0)>w(0,0,0)");
         Due.rule(office, "w(0,0,0)>o(0,0,0)");
+        Due.rule(office, "w(0,0,0)>l(0,0,0)");
         office.paper(Due.fact("o000"), 0);
         expect(office, "o000", 0, 1);
         expect(office, "s000", 1, 2);
         expect(office, "h000", 2, 3);
         expect(office, "m000", 3, 4);
         expect(office, "w000", 2, 5);
-        Due.is("many", office.many(0), 5);
+        expect(office, "l000", 3, 6);
+        Due.is("many", office.many(0), 6);
         Due.is("what 3", office.follows(0, 0, 3), DeedProofs.NONE);
         Due.is("what -1 ahead of bad", office.follows(750, 1000, -1), DeedProofs.NONE);
         Due.is("fact 750", office.follows(750, 0, 0), DeedProofs.BAD);
@@ -82,7 +85,7 @@ public final class PapersTest {
         Due.is("day -1", office.follows(0, -1, 0), DeedProofs.BAD);
         Due.is("many of 1000", office.many(1000), DeedProofs.BAD);
         Due.is("many of -1", office.many(-1), DeedProofs.BAD);
-        Due.is("many of 999", office.many(999), 5);
+        Due.is("many of 999", office.many(999), 6);
     }
 
     private static void expect(DeedProofs office, String fact, int height, int size) {
@@ -156,5 +159,23 @@ public final class PapersTest {
         Due.is("s then", office.follows(Due.fact("s111"), 7, 0), 0);
         Due.is("h then", office.follows(Due.fact("h111"), 7, 0), 1);
         Due.is("h at the end", office.follows(Due.fact("h111"), 999, 1), 1);
+    }
+
+    private static void allFacts() {
+        DeedProofs office = new DeedProofs();
+        Due.rule(office, "o(a,b,c)&w(d,d,d)>o(b,c,d)");
+        String shapes = "oshmlw";
+        for (int i = 0; i < 5; i++) {
+            Due.rule(office, shapes.charAt(i) + "(a,b,c)>" + shapes.charAt(i + 1) + "(a,b,c)");
+            office.paper(Due.fact("w000") + 31 * i, 0);
+        }
+        office.paper(Due.fact("o000"), 0);
+        Due.is("all follow", office.many(0), 750);
+        Due.is("height of the last", office.follows(Due.fact("w234"), 0, 1), 8);
+        Due.is("size of the last", office.follows(Due.fact("w234"), 0, 2), 12);
+        Due.is("all follow once more", office.many(0), 750);
+        Due.tactic(office, "(0;1;2;3;4;5)*");
+        Due.is("all are found", office.run(0, 200, 0), 750);
+        Due.is("in four rounds", office.run(0, 200, 1), 24);
     }
 }

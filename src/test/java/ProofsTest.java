@@ -14,6 +14,8 @@ public final class ProofsTest {
         acting();
         takenAs();
         byDays();
+        onItself();
+        fullOfAll();
         Due.end();
     }
 
@@ -258,6 +260,19 @@ public final class ProofsTest {
         Due.is("as it is today", changed.fill(0, 3), 0);
         Due.is("taken today", changed.check(0, 6), 1);
         Due.is("not at first", changed.lacks(0, 0, 0), 11);
+        // A text that had a fault leaves nothing behind for the next one.
+        DeedProofs left = office();
+        left.proof(OPEN);
+        step(left, 0, 3, "1230", 1, 300);
+        Due.is("a fault", Due.change(left, 3, 0, "s(a,b,c)&o(a,b,c)>x"), -28);
+        Due.is("a change", Due.change(left, 3, 0, "s(a,b,c)>o(c,b,a)"), 1);
+        Due.is("it has no such term", left.fill(0, 0), DeedProofs.STATE);
+        DeedProofs least = new DeedProofs();
+        Due.rule(least, "o(a,b,c)>s(a,b,c)");
+        least.paper(0, 0);
+        least.proof(PIECE);
+        step(least, 0, 0, "0000", 300);
+        Due.is("with the fact 0", least.fill(0, 0), 0);
     }
 
     private static void leaning() {
@@ -355,5 +370,54 @@ public final class ProofsTest {
             Due.is("next on " + days[i], office.lacks(0, 1, days[i]), i == 0 ? 0 : 10);
             Due.is("check on " + days[i], office.check(0, days[i]), i == 0 ? 1 : 0);
         }
+    }
+
+    private static void onItself() {
+        DeedProofs office = new DeedProofs();
+        Due.rule(office, "o(a,b,c)>o(a,b,c)");
+        office.paper(Due.fact("o123"), 0);
+        office.proof(SHARED);
+        office.proof(SHARED);
+        step(office, 0, 0, "1230", 100);
+        Due.is("a step by itself", office.lacks(0, 0, 0), 10);
+        step(office, 1, 0, "1230", 0);
+        Due.is("taken", office.check(1, 0), 1);
+        step(office, 1, 0, "1230", 201);
+        Due.is("a proof by itself", office.lacks(1, 1, 0), 10);
+        Due.is("a proof by itself again", office.lacks(1, 1, 0), 10);
+        Due.is("not taken", office.check(1, 0), 0);
+    }
+
+    private static void fullOfAll() {
+        DeedProofs office = new DeedProofs();
+        for (int i = 0; i < 8; i++) {
+            Due.rule(office, "o(a,b,c)>o(c,a,b)");
+        }
+        for (int i = 0; i < 20; i++) {
+            office.paper(31, 0);
+        }
+        for (int p = 0; p < 12; p++) {
+            office.proof(p == 11 ? OPEN : CUT);
+            for (int s = 0; s < 12; s++) {
+                step(office, p, 7, "1110", p == 11 ? 300 : s == 11 && p > 0 ? 199 + p : s == 0 ? 19 : 99 + s);
+            }
+            Due.is("taken " + p, office.check(p, 999), 1);
+            Due.is("last of " + p, office.lacks(p, 11, 0), 0);
+            Due.is("leans of " + p, office.leans(p), p == 11 ? 0 : 1 << 19);
+        }
+        Due.is("full", step(office, 11, 7, "1110", 19), DeedProofs.FULL);
+        Due.is("holes", office.hole(11, -1), 12);
+        Due.is("last hole", office.hole(11, 11), 110);
+        Due.is("no more holes", office.hole(11, 12), DeedProofs.NONE);
+        for (int left = 11; left >= 0; left--) {
+            Due.is("fill", office.fill(11, left == 11 ? 19 : 100), left);
+        }
+        Due.is("no hole is left", office.fill(11, 19), DeedProofs.STATE);
+        Due.is("leans then", office.leans(11), 1 << 19);
+        Due.is("title", office.title(11), 0);
+        Due.is("carried", office.carry(0, 999), -5);
+        Due.is("stands", office.stand(0, 999), 1);
+        Due.is("by another paper", office.fall(19), 0);
+        Due.is("no paper is needed", office.every(31), 0);
     }
 }

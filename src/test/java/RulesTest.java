@@ -183,6 +183,11 @@ public final class RulesTest {
         Due.rule(first, "o(a,b,c)>s(a,b,c)");
         Due.is("on day 0", Due.change(first, 0, 0, "o(a,b,c)&s(a,b,c)>s(a,b,c)"), 1);
         Due.is("in force on day 0", first.told(0, 0, 0), 2);
+        Due.is("the first one", first.told(0, 0, 2), 0);
+        Due.is("a later one", Due.change(first, 0, 9, "o(a,b,c)>s(a,b,c)"), 2);
+        Due.is("one between", Due.change(first, 0, 5, "o(a,b,c)&o(a,b,c)&o(a,b,c)>s(a,b,c)"), 3);
+        Due.is("in force between", first.told(0, 8, 2), 2);
+        Due.is("in force later", first.told(0, 9, 2), 1);
     }
 
     private static void changeRefusals() {

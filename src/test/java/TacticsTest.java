@@ -173,6 +173,9 @@ public final class TacticsTest {
         expect("0;1;2", 2, 5, 2);
         expect("2|1|0", 1, 2, 1);
         expect("2;7;1", 1, 2, 1);
+        DeedProofs wide = office("0", "0", "0", "0", "0", "0;".repeat(59) + "0*");
+        Due.is("of 120 bytes", wide.run(5, 200, 1), 60);
+        Due.is("with brackets", Due.tactic(office(), "(1);".repeat(29) + "(2)*"), 0);
         DeedProofs office = office("0;0;0;0;0;0;0;0;0;0;0;0;0;0;0;0;0;0;0;0;0;0;0;0;0;0;0;0;0;0");
         Due.is("thirty", office.run(0, 200, 1), 30);
         Due.is("of them 29", office.run(0, 29, 1), 29);

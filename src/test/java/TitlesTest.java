@@ -199,6 +199,17 @@ public final class TitlesTest {
         Due.is("one x", office.clash(0, 3), -5);
         Due.is("not owned", office.clash(4, 1), -5);
         Due.is("not owned, the other way", office.clash(1, 4), -5);
+        DeedProofs edge = new DeedProofs();
+        Due.rule(edge, "h(a,b,c)>s(a,b,c)");
+        Due.rule(edge, "h(a,b,c)>o(a,b,c)");
+        edge.paper(Due.fact("h000"), 0);
+        edge.paper(Due.fact("h404"), 0);
+        edge.title(line(edge, 0, "0000", 0));
+        edge.title(line(edge, 1, "4040", 1));
+        edge.title(line(edge, 1, "0000", 0));
+        Due.is("s is not o", edge.clash(0, 1), -5);
+        Due.is("s is not o, the other way", edge.clash(1, 0), -5);
+        Due.is("the least and the greatest", edge.clash(1, 2), 3);
         Due.is("one", office.clash(1, 1), DeedProofs.BAD);
         Due.is("none such", office.clash(1, 5), DeedProofs.NONE);
         Due.is("none such ahead", office.clash(-1, 1), DeedProofs.NONE);
