@@ -852,6 +852,12 @@ public final class DeedProofs {
             return proofKind[proof] == SHARED || proofKind[proof] == CUT;
         }
 
+        /** The PROOF whose end a source is to a PROOF, TAKEN or not; -1: it is no end in that KIND. */
+        private int endIn(int proof, int source) {
+            boolean lesser = source >= FROM_PROOF && source < FROM_PROOF + proof;
+            return lesser && takesEnds(proof) ? source - FROM_PROOF : -1;
+        }
+
         private boolean isTitled(int proof) {
             for (int t = 0; t < counts[TITLES]; t++) {
                 if (titleProof[t] == proof) {
@@ -870,10 +876,10 @@ public final class DeedProofs {
             return false;
         }
 
-        /** Whether a STEP of a later PROOF names this PROOF's end, allowed in that KIND or not. */
+        /** Whether a STEP of a later PROOF names this PROOF's end, in a KIND that takes ends. */
         private boolean isUsed(int proof) {
             for (int p = proof + 1; p < counts[PROOFS]; p++) {
-                if (countSources(p, FROM_PROOF + proof) > 0) {
+                if (takesEnds(p) && countSources(p, FROM_PROOF + proof) > 0) {
                     return true;
                 }
             }
@@ -974,9 +980,9 @@ public final class DeedProofs {
                 int place = proof * MOST_STEPS + source - FROM_STEP;
                 return lack[place] == 0 && fact[place] == wanted;
             }
-            if (source >= FROM_PROOF && source < FROM_PROOF + proof) {
-                int q = source - FROM_PROOF;
-                return book.takesEnds(proof) && taken[q] && fact[q * MOST_STEPS + book.stepCount[q] - 1] == wanted;
+            int q = book.endIn(proof, source);
+            if (q >= 0) {
+                return taken[q] && fact[q * MOST_STEPS + book.stepCount[q] - 1] == wanted;
             }
             return source == FROM_HOLE && book.takesHoles(proof);
         }
@@ -1024,10 +1030,11 @@ public final class DeedProofs {
             int bits = 0;
             for (int k = 0; k < book.stepRows[row + TERMS]; k++) {
                 int source = book.stepRows[row + SOURCES + k];
+                int q = book.endIn(proof, source);
                 if (book.has(PAPERS, source)) {
                     bits |= 1 << source;
-                } else if (source >= FROM_PROOF && source < FROM_PROOF + proof) {
-                    bits |= under[source - FROM_PROOF];
+                } else if (q >= 0) {
+                    bits |= under[q];
                 }
             }
             return bits;

@@ -451,7 +451,7 @@ final class Model {
         }
         for (Proof later : proofs.subList(proof + 1, proofs.size())) {
             for (Step step : later.steps) {
-                if (step.from.contains(200 + proof)) {
+                if (takesEnds(later) && step.from.contains(200 + proof)) {
                     return STATE;
                 }
             }
@@ -462,6 +462,10 @@ final class Model {
         }
         steps.add(new Step(rule, letters, List.of(first, second, third).subList(0, terms)));
         return steps.size() - 1;
+    }
+
+    private static boolean takesEnds(Proof proof) {
+        return proof.kind == 2 || proof.kind == 3;
     }
 
     int sayingOf(int proof, int step, int day) {
@@ -553,7 +557,7 @@ final class Model {
                 if (in(from, papers.size())) {
                     leaning.add(from);
                 }
-                if (in(from - 200, proof) && ends.add(from - 200)) {
+                if (takesEnds(proofs.get(proof)) && in(from - 200, proof) && ends.add(from - 200)) {
                     leaning.addAll(leaning(from - 200));
                 }
             }

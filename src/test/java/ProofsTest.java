@@ -8,6 +8,8 @@ public final class ProofsTest {
         lacking();
         lackingSources();
         endsOfOthers();
+        endsByKind();
+        endsUnderTitles();
         holes();
         filling();
         leaning();
@@ -301,6 +303,51 @@ public final class ProofsTest {
         step(office, 3, 0, "1230", Integer.MAX_VALUE);
         step(office, 3, 0, "1230", -1);
         Due.is("on nothing", office.leans(3), 0);
+    }
+
+    /** Only SHARED and CUT use ends: in other KINDS 200 and q is no use of q, and no PAPER of q is leant on. */
+    private static void endsByKind() {
+        for (int kind = 0; kind < 5; kind++) {
+            boolean uses = kind == SHARED || kind == CUT;
+            DeedProofs office = office();
+            office.proof(SHARED);
+            office.proof(LINE);
+            office.proof(kind);
+            step(office, 1, 0, "1230", 0);
+            step(office, 2, 3, "1230", 201, 2);
+            Due.is("leans in kind " + kind, office.leans(2), uses ? 5 : 4);
+            Due.is("used in kind " + kind, step(office, 1, 0, "1230", 2), uses ? DeedProofs.STATE : 1);
+            Due.is("leans then in kind " + kind, office.leans(2), uses ? 5 : 4);
+            step(office, 2, 2, "1230", 200);
+            Due.is("one of no steps in kind " + kind, step(office, 0, 0, "1230", 0), uses ? DeedProofs.STATE : 0);
+            office.proof(CUT);
+            step(office, 3, 2, "1230", 202);
+            Due.is("leans by one of kind " + kind, office.leans(3), uses ? 5 : 4);
+            Due.is("used by a cut in kind " + kind, step(office, 2, 0, "1230", 0), DeedProofs.STATE);
+        }
+        DeedProofs office = office();
+        office.proof(SHARED);
+        office.proof(CUT);
+        step(office, 0, 2, "1230", 201);
+        Due.is("an end of a greater number is no use", step(office, 1, 0, "1230", 0), 0);
+        Due.is("and not leant on", office.leans(0), 0);
+    }
+
+    /** Two TITLES that clash part by what they lean on: a STEP's 200 and q in a CUT leads to q's PAPERS. */
+    private static void endsUnderTitles() {
+        DeedProofs office = new DeedProofs();
+        Due.rule(office, "o(a,b,c)>o(c,b,a)");
+        office.paper(Due.fact("o123"), 0);
+        office.paper(Due.fact("o422"), 0);
+        office.proof(LINE);
+        step(office, 0, 0, "1230", 0);
+        office.proof(CUT);
+        step(office, 1, 0, "3210", 200);
+        office.proof(LINE);
+        step(office, 2, 0, "4220", 1);
+        Due.is("title by an end", office.title(1), 0);
+        Due.is("title by a paper", office.title(2), 1);
+        Due.is("parts", office.clash(0, 1), 3);
     }
 
     private static void acting() {
