@@ -14,6 +14,10 @@ final class Due {
         }
     }
 
+    static void holds(String what, boolean so) {
+        is(what, so ? 1 : 0, 1);
+    }
+
     /** Feeds a text, as many bytes at a time as a call takes. */
     static int feed(DeedProofs office, String text) {
         int size = office.count(7);

@@ -1,8 +1,21 @@
+import java.util.function.Supplier;
+
 /** Promises 33 to 35: image, undo, count. */
 public final class ImageTest {
+    private static final Supplier<DeedProofs> IMAGED = Offices.then(ImageTest::office, DeedProofs::image);
+    private static final Supplier<DeedProofs> CHANGED = Offices.then(IMAGED, ImageTest::changeAll);
+    private static final Supplier<DeedProofs> UNDONE = Offices.then(CHANGED, DeedProofs::undo);
+
     public static void main(String[] args) {
         counts();
-        images();
+        countRefused();
+        undoWithoutImage();
+        imageChangesNothing();
+        undoIsAsTheImage();
+        undoneTape();
+        undoneAgain();
+        laterImage();
+        imageOfANewObject();
         Due.end();
     }
 
@@ -31,16 +44,6 @@ public final class ImageTest {
         return office;
     }
 
-    private static void counts() {
-        DeedProofs office = office();
-        int[] due = {4, 2, 1, 3, 5, 2, 1, 3};
-        for (int what = 0; what < due.length; what++) {
-            Due.is("count " + what, office.count(what), due[what]);
-        }
-        Due.is("count 8", office.count(8), DeedProofs.NONE);
-        Due.is("count -1", office.count(-1), DeedProofs.NONE);
-    }
-
     private static void changeAll(DeedProofs office) {
         Due.feed(office, ",b,c)>o(c,b,a)");
         Due.is("a rule with the tape", office.rule(), 2);
@@ -57,43 +60,100 @@ public final class ImageTest {
         Due.feed(office, "xx");
     }
 
-    /** Whether a rule comes of the tape and what is fed behind it; its bytes are seen in no other way. */
-    private static boolean tapeIs(DeedProofs office, String start, String rest) {
-        boolean fits = office.count(7) == start.length();
-        return Due.rule(office, rest) >= 0 && fits;
+    private static void counts() {
+        DeedProofs office = office();
+        int[] due = {4, 2, 1, 3, 5, 2, 1, 3};
+        int[] most = {999, 8, 12, 20, 12, 10, 6, 120};
+        for (int what = 0; what < due.length; what++) {
+            Due.is("count " + what, office.count(what), due[what]);
+            Due.is("count of a full " + what, Offices.full().count(what), most[what]);
+            Due.is("count of a new " + what, new DeedProofs().count(what), 0);
+        }
     }
 
-    private static void images() {
+    /** count: "NONE." */
+    private static void countRefused() {
+        for (int what : new int[] {-1, 8, Integer.MIN_VALUE, Integer.MAX_VALUE}) {
+            Still.refused("count " + what, Offices::someWithTape, DeedProofs.NONE, office -> office.count(what));
+        }
+    }
+
+    /** undo: "STATE: there is none." */
+    private static void undoWithoutImage() {
+        Still.refused("undo without an image", ImageTest::office, DeedProofs.STATE, DeedProofs::undo);
+        Still.refused("undo of a new one", DeedProofs::new, DeedProofs.STATE, DeedProofs::undo);
+    }
+
+    /** "THE IMAGE is taken: TODAY." */
+    private static void imageChangesNothing() {
         DeedProofs office = office();
-        Due.is("none yet", office.undo(), DeedProofs.STATE);
-        String before = Picture.of(office);
         Due.is("image", office.image(), 4);
-        Due.is("image changes nothing", before.equals(Picture.of(office)) ? 1 : 0, 1);
-        changeAll(office);
-        Due.is("all is otherwise", before.equals(Picture.of(office)) ? 1 : 0, 0);
-        Due.is("undo", office.undo(), 4);
-        Due.is("the tape is as it was", tapeIs(office, "o(a", ",b,c)>s(a,b,c)") ? 1 : 0, 1);
-        Due.is("undo", office.undo(), 4);
-        Due.is("all is as it was", before.equals(Picture.of(office)) ? 1 : 0, 1);
-        changeAll(office);
-        Due.is("undo again", office.undo(), 4);
-        Due.is("all is as it was again", before.equals(Picture.of(office)) ? 1 : 0, 1);
-        changeAll(office);
-        String later = Picture.of(office);
-        Due.is("another image", office.image(), 94);
-        office.day(5);
-        office.shown(0, false);
-        Due.is("undo to that", office.undo(), 94);
-        Due.is("as it was later", later.equals(Picture.of(office)) ? 1 : 0, 1);
+        Due.is("image again", office.image(), 4);
+        Still.alike("a second image changes nothing", IMAGED, Offices.then(IMAGED, DeedProofs::image));
+        Still.alike("an image changes nothing but what undo answers",
+                Offices.then(IMAGED, DeedProofs::undo), IMAGED);
+    }
+
+    /** "All is as THE IMAGE: TODAY." */
+    private static void undoIsAsTheImage() {
+        Still.unlike("all is otherwise", IMAGED, CHANGED);
+        Due.is("undo", CHANGED.get().undo(), 4);
+        Still.alike("all is as it was", IMAGED, UNDONE);
+    }
+
+    /** "THE IMAGE: all that there is": the bytes of THE TAPE, too. */
+    private static void undoneTape() {
+        DeedProofs office = UNDONE.get();
+        Due.is("bytes", office.count(7), 3);
+        Due.is("a rule of them and the rest", Due.rule(office, ",b,c)>s(a,b,c)"), 2);
+        DeedProofs empty = new DeedProofs();
+        empty.image();
+        Due.feed(empty, "x");
+        empty.undo();
+        Due.is("no bytes", empty.count(7), 0);
+        Due.is("none is left", Due.rule(empty, "o(a,b,c)>s(a,b,c)"), 0);
+    }
+
+    /** "THE IMAGE: all that there is (but THE IMAGE)": it stays. */
+    private static void undoneAgain() {
+        Still.alike("undo twice", IMAGED, Offices.then(UNDONE, DeedProofs::undo));
+        Supplier<DeedProofs> again = Offices.then(Offices.then(UNDONE, ImageTest::changeAll), DeedProofs::undo);
+        Due.is("undo again", Offices.then(UNDONE, ImageTest::changeAll).get().undo(), 4);
+        Still.alike("all is as it was again", IMAGED, again);
+    }
+
+    private static void laterImage() {
+        Supplier<DeedProofs> later = Offices.then(CHANGED, DeedProofs::image);
+        Supplier<DeedProofs> undone = Offices.then(later, office -> {
+            office.day(5);
+            office.shown(0, false);
+            Due.is("undo to the later one", office.undo(), 94);
+        });
+        Still.alike("all is as it was later", later, undone);
+        Still.unlike("not as at first", IMAGED, undone);
+    }
+
+    private static void imageOfANewObject() {
         DeedProofs fresh = new DeedProofs();
-        fresh.image();
+        Due.is("image of nothing", fresh.image(), 0);
         Due.tactic(fresh, "0");
         fresh.run(0, 1, 0);
         Due.is("ran", fresh.found(0), 0);
         Due.is("undo to nothing", fresh.undo(), 0);
         Due.is("none ran", fresh.found(0), DeedProofs.STATE);
-        for (int what = 0; what < 8; what++) {
-            Due.is("nothing of " + what, fresh.count(what), 0);
-        }
+        Still.alike("a new one with its image", Offices.then(DeedProofs::new, DeedProofs::image),
+                Offices.then(Offices.then(Offices.then(DeedProofs::new, DeedProofs::image), ImageTest::grow),
+                        DeedProofs::undo));
+    }
+
+    private static void grow(DeedProofs office) {
+        Due.rule(office, "s(a,b,c)>o(b,a,c)");
+        office.paper(Due.fact("s123"), 0);
+        office.proof(0);
+        office.step(0, 0, Due.letters("1230"), 1, 0, 0, 0);
+        office.title(0);
+        Due.tactic(office, "0");
+        office.run(0, 1, 0);
+        office.day(7);
     }
 }
