@@ -23,6 +23,7 @@ public final class FaceTest {
 
     public static void main(String[] args) throws IOException {
         constants();
+        lastCall();
         face();
         source();
         Due.end();
@@ -33,6 +34,18 @@ public final class FaceTest {
         Due.is("BAD", DeedProofs.BAD, -2);
         Due.is("STATE", DeedProofs.STATE, -3);
         Due.is("FULL", DeedProofs.FULL, -4);
+    }
+
+    /** "An object is used for at most 512 calls after it has been made": the 512th is answered as the first. */
+    private static void lastCall() {
+        DeedProofs office = new DeedProofs();
+        Due.is("the first call", office.paper(749, 4), 0);
+        for (int call = 2; call <= 509; call++) {
+            Due.is("call " + call, office.shown(0, call % 2 == 0), call % 2);
+        }
+        Due.is("call 510", office.image(), 0);
+        Due.is("call 511", office.follows(749, 999, 2), 1);
+        Due.is("call 512", office.undo(), 0);
     }
 
     private static void face() {

@@ -14,6 +14,7 @@ public final class ImageTest {
         undoIsAsTheImage();
         undoneTape();
         undoneAgain();
+        undoneProofs();
         laterImage();
         imageOfANewObject();
         Due.end();
@@ -120,6 +121,28 @@ public final class ImageTest {
         Supplier<DeedProofs> again = Offices.then(Offices.then(UNDONE, ImageTest::changeAll), DeedProofs::undo);
         Due.is("undo again", Offices.then(UNDONE, ImageTest::changeAll).get().undo(), 4);
         Still.alike("all is as it was again", IMAGED, again);
+    }
+
+    /** "All is as THE IMAGE": what was asked for ahead of undo leaves nothing behind, and numbers are given anew. */
+    private static void undoneProofs() {
+        DeedProofs office = IMAGED.get();
+        office.step(4, 0, Due.letters("1230"), 1, 0, 0, 0);
+        office.step(3, 0, Due.letters("1230"), 1, 0, 0, 0);
+        Due.is("leans", office.leans(4), 1);
+        Due.is("leans of another", office.leans(3), 1);
+        Due.is("taken", office.check(3, 4), 1);
+        office.proof(0);
+        office.step(5, 0, Due.letters("1230"), 1, 0, 0, 0);
+        Due.is("leans of the last", office.leans(5), 1);
+        office.undo();
+        Due.is("leans no more", office.leans(4), 0);
+        Due.is("nor another", office.leans(3), 0);
+        Due.is("not taken", office.check(3, 4), 0);
+        Due.is("the last is not there", office.leans(5), DeedProofs.NONE);
+        Due.is("one of another kind", office.proof(2), 5);
+        Due.is("has no steps", office.as(5, 2), 0);
+        Due.is("is of its own kind", office.as(5, 1), -6);
+        Due.is("leans on nothing", office.leans(5), 0);
     }
 
     private static void laterImage() {
