@@ -2,7 +2,7 @@ import java.util.function.Supplier;
 
 /** Promise 19: a test of its own for each sentence that names a boundary, which stands above it. */
 public final class FillEdgesTest {
-    private static final int LEAST = Integer.MIN_VALUE, MOST = Integer.MAX_VALUE;
+    private static final int LEAST = Integer.MIN_VALUE, MOST = Integer.MAX_VALUE, PROOF = 9;
 
     public static void main(String[] args) {
         fillOfNoProof();
@@ -20,22 +20,20 @@ public final class FillEdgesTest {
         Due.end();
     }
 
-    /** PAPERS 0: o123, 1: o321, 2: o123; a RULE that says what it is taken from; PROOF 0 with HOLES in STEPS 1, 2 and 3. */
+    /** RULE 3 says what it is taken from; PAPERS 4: o123, 5: o321, 6: o123; PROOF 9 has HOLES in STEPS 1 and 2. */
     private static DeedProofs office(int kind) {
-        DeedProofs office = new DeedProofs();
-        Due.rule(office, "o(a,b,c)>o(a,b,c)");
-        Due.rule(office, "o(a,b,c)&o(c,b,a)>s(a,b,c)");
-        office.paper(Due.fact("o123"), 0);
-        office.paper(Due.fact("o321"), 0);
-        office.paper(Due.fact("o123"), 0);
-        office.proof(kind);
-        Offices.step(office, 0, 0, "1230", 0);
-        Offices.step(office, 0, 0, "1230", 300);
-        Offices.step(office, 0, 1, "1230", 300, 300);
-        Offices.step(office, 0, 0, "1230", 0);
-        office.image();
-        Due.feed(office, "o(a,b,c)>w(a,b,c)");
-        return office;
+        return Offices.someAnd(office -> {
+            Due.rule(office, "o(a,b,c)>o(a,b,c)");
+            Due.rule(office, "o(a,b,c)&o(c,b,a)>s(a,b,c)");
+            office.paper(Due.fact("o123"), 0);
+            office.paper(Due.fact("o321"), 0);
+            office.paper(Due.fact("o123"), 0);
+            office.proof(kind);
+            Offices.step(office, PROOF, 3, "1230", 4);
+            Offices.step(office, PROOF, 3, "1230", 300);
+            Offices.step(office, PROOF, 4, "1230", 300, 300);
+            Offices.step(office, PROOF, 3, "1230", 4);
+        }).get();
     }
 
     private static DeedProofs piece() {
@@ -47,8 +45,8 @@ public final class FillEdgesTest {
     }
 
     private static void refused(String name, int from) {
-        Still.refused("piece: " + name, FillEdgesTest::piece, DeedProofs.STATE, office -> office.fill(0, from));
-        Still.refused("open: " + name, FillEdgesTest::open, DeedProofs.STATE, office -> office.fill(0, from));
+        Still.refused("piece: " + name, FillEdgesTest::piece, DeedProofs.STATE, office -> office.fill(PROOF, from));
+        Still.refused("open: " + name, FillEdgesTest::open, DeedProofs.STATE, office -> office.fill(PROOF, from));
     }
 
     /** "NONE: proof" */
@@ -67,7 +65,7 @@ public final class FillEdgesTest {
             }
         }
         for (int kind : new int[] {Offices.LINE, Offices.SHARED, Offices.CUT}) {
-            Still.refused("fill in kind " + kind, () -> office(kind), DeedProofs.STATE, office -> office.fill(0, 0));
+            Still.refused("fill in kind " + kind, () -> office(kind), DeedProofs.STATE, office -> office.fill(PROOF, 4));
         }
         DeedProofs empty = new DeedProofs();
         empty.proof(Offices.PIECE);
@@ -76,7 +74,7 @@ public final class FillEdgesTest {
 
     /** "or that is none such": from neither 0 .. 19 nor 100 and i, or from a PAPER that there isn't. */
     private static void fillFromNoneSuch() {
-        for (int from : new int[] {-1, 3, 19, 20, 32, 99, 200, 201, 300, LEAST, MOST}) {
+        for (int from : new int[] {-1, 7, 19, 20, 32, 99, 200, 208, 300, LEAST, MOST}) {
             refused("from " + from, from);
         }
     }
@@ -90,25 +88,25 @@ public final class FillEdgesTest {
 
     /** "FALSE" */
     private static void fillFromAFalsePaper() {
-        Supplier<DeedProofs> shown = Offices.then(FillEdgesTest::piece, office -> office.shown(0, true));
-        Still.refused("from a false paper", shown, DeedProofs.STATE, office -> office.fill(0, 0));
-        Due.is("from another of that fact", shown.get().fill(0, 2), 2);
-        Due.is("from one that is true", piece().fill(0, 0), 2);
+        Supplier<DeedProofs> shown = Offices.then(FillEdgesTest::piece, office -> office.shown(4, true));
+        Still.refused("from a false paper", shown, DeedProofs.STATE, office -> office.fill(PROOF, 4));
+        Due.is("from another of that fact", shown.get().fill(PROOF, 6), 2);
+        Due.is("from one that is true", piece().fill(PROOF, 4), 2);
         DeedProofs again = shown.get();
-        again.shown(0, false);
-        Due.is("true again", again.fill(0, 0), 2);
+        again.shown(4, false);
+        Due.is("true again", again.fill(PROOF, 4), 2);
     }
 
     /** "or says another FACT" */
     private static void fillFromAnotherFact() {
-        refused("from a paper of another fact", 1);
+        refused("from a paper of another fact", 5);
         Supplier<DeedProofs> last = Offices.then(FillEdgesTest::piece, office -> {
-            office.fill(0, 0);
-            office.fill(0, 0);
+            office.fill(PROOF, 4);
+            office.fill(PROOF, 4);
         });
-        Still.refused("from a paper", last, DeedProofs.STATE, office -> office.fill(0, 0));
-        Still.refused("from a step of another fact", last, DeedProofs.STATE, office -> office.fill(0, 100));
-        Due.is("from a paper of that fact", last.get().fill(0, 1), 0);
+        Still.refused("from a paper", last, DeedProofs.STATE, office -> office.fill(PROOF, 4));
+        Still.refused("from a step of another fact", last, DeedProofs.STATE, office -> office.fill(PROOF, 100));
+        Due.is("from a paper of that fact", last.get().fill(PROOF, 5), 0);
     }
 
     /** The same, where the FACT is 0: nothing says it but a PAPER or a STEP. */
@@ -134,19 +132,20 @@ public final class FillEdgesTest {
 
     /** "(all TODAY)": by the text that the RULE has TODAY, of the HOLE's STEP and of the earlier one. */
     private static void fillToday() {
-        Due.is("the day ahead", changedPiece(2).fill(0, 100), 2);
-        Due.is("a step that says another then", changedPiece(3).fill(0, 100), DeedProofs.STATE);
-        Due.is("the term is as it was", changedPiece(3).fill(0, 0), 2);
-        Due.is("another term then", changedPiece(5).fill(0, 0), DeedProofs.STATE);
-        Due.is("which a paper says", changedPiece(5).fill(0, 1), 2);
+        Due.is("the day ahead", changedPiece(1).fill(PROOF, 100), 2);
+        Due.is("a step that says another then", changedPiece(2).fill(PROOF, 100), DeedProofs.STATE);
+        Due.is("the term is as it was", changedPiece(2).fill(PROOF, 4), 2);
+        Due.is("another term then", changedPiece(3).fill(PROOF, 4), DeedProofs.STATE);
+        Due.is("which a paper says", changedPiece(3).fill(PROOF, 5), 2);
     }
 
-    private static DeedProofs changedPiece(int today) {
+    /** A RULE changes in two days, and in three. */
+    private static DeedProofs changedPiece(int days) {
         DeedProofs office = piece();
         office.rule();
-        Due.change(office, 0, 3, "o(a,b,c)>o(c,b,a)");
-        Due.change(office, 0, 5, "o(c,b,a)>o(a,b,c)");
-        office.day(today);
+        Due.change(office, 3, 7, "o(a,b,c)>o(c,b,a)");
+        Due.change(office, 3, 8, "o(c,b,a)>o(a,b,c)");
+        office.day(days);
         return office;
     }
 
@@ -155,15 +154,15 @@ public final class FillEdgesTest {
         for (int kind : new int[] {Offices.PIECE, Offices.OPEN}) {
             DeedProofs office = office(kind);
             int[] places = {10, 20, 21};
-            int[] from = {2, 101, 1};
+            int[] from = {6, 101, 5};
             for (int i = 0; i < 3; i++) {
-                Due.is("the first hole", office.hole(0, 0), places[i]);
-                Due.is("filled from " + from[i], office.fill(0, from[i]), 2 - i);
-                Due.is("holes that are left", office.hole(0, -1), 2 - i);
+                Due.is("the first hole", office.hole(PROOF, 0), places[i]);
+                Due.is("filled from " + from[i], office.fill(PROOF, from[i]), 2 - i);
+                Due.is("holes that are left", office.hole(PROOF, -1), 2 - i);
             }
-            Due.is("none is left", office.fill(0, 0), DeedProofs.STATE);
-            Due.is("taken", office.check(0, 0), 1);
-            Due.is("leans on those", office.leans(0), 7);
+            Due.is("none is left", office.fill(PROOF, 4), DeedProofs.STATE);
+            Due.is("taken", office.check(PROOF, 5), 1);
+            Due.is("leans on those", office.leans(PROOF), 7 << 4);
         }
     }
 
@@ -171,11 +170,11 @@ public final class FillEdgesTest {
     private static void fillByItsOwnLetters() {
         DeedProofs office = piece();
         office.proof(Offices.LINE);
-        Offices.step(office, 1, 0, "3210", 1);
-        Due.is("another proof's letters", office.says(1, 0, 0), Due.fact("o321"));
-        Due.is("do not count", office.fill(0, 1), DeedProofs.STATE);
-        Due.is("check of another", office.check(1, 0), 1);
-        Due.is("from a paper", office.fill(0, 0), 2);
+        Offices.step(office, 10, 3, "3210", 5);
+        Due.is("another proof's letters", office.says(10, 0, 5), Due.fact("o321"));
+        Due.is("do not count", office.fill(PROOF, 5), DeedProofs.STATE);
+        Due.is("check of another", office.check(10, 5), 1);
+        Due.is("from a paper", office.fill(PROOF, 4), 2);
     }
 
     /** "from (0 .. 19, 100 and i)": the first PAPER and the last, the first STEP and the last that is earlier. */
@@ -200,9 +199,9 @@ public final class FillEdgesTest {
     /** STATE is told for no other reason: a TITLE does not hinder it. */
     private static void fillATitle() {
         DeedProofs office = open();
-        Due.is("title of an open one", office.title(0), 0);
-        Due.is("no step more", Offices.step(office, 0, 0, "1230", 0), DeedProofs.STATE);
-        Due.is("filled", office.fill(0, 0), 2);
-        Due.is("stands", office.stand(0, 0), 1);
+        Due.is("title of an open one", office.title(PROOF), 2);
+        Due.is("no step more", Offices.step(office, PROOF, 3, "1230", 4), DeedProofs.STATE);
+        Due.is("filled", office.fill(PROOF, 4), 2);
+        Due.is("stands", office.stand(2, 5), 1);
     }
 }

@@ -1,3 +1,4 @@
+import java.util.function.BiConsumer;
 import java.util.function.Consumer;
 import java.util.function.Supplier;
 
@@ -30,6 +31,15 @@ final class Offices {
      * (of DAY 4), 1 TACTIC, which ran; THE IMAGE is of DAY 4, TODAY is 5.
      */
     static DeedProofs some() {
+        DeedProofs office = unrun();
+        office.run(0, 3, 0);
+        office.image();
+        office.day(1);
+        return office;
+    }
+
+    /** The same on DAY 4, ahead of the run and of THE IMAGE. */
+    static DeedProofs unrun() {
         DeedProofs office = new DeedProofs();
         Due.rule(office, "s(a,b,c)>o(b,a,c)");
         Due.rule(office, "o(a,b,c)&h(d,d,d)&a#d>l(a,b,c)");
@@ -45,9 +55,6 @@ final class Offices {
         office.title(0);
         office.title(2);
         Due.tactic(office, "(0;1)*");
-        office.run(0, 3, 0);
-        office.image();
-        office.day(1);
         return office;
     }
 
@@ -68,9 +75,21 @@ final class Offices {
 
     /** The same with a RULE's text on THE TAPE. */
     static DeedProofs someWithTape() {
-        DeedProofs office = some();
-        Due.feed(office, "s(a,b,c)>l(b,a,c)");
-        return office;
+        return someAnd(office -> { }).get();
+    }
+
+    /** Some of all there is and what comes by these calls, with a RULE's text on THE TAPE. */
+    static Supplier<DeedProofs> someAnd(Consumer<DeedProofs> more) {
+        return then(then(Offices::some, more), office -> Due.feed(office, "s(a,b,c)>l(b,a,c)"));
+    }
+
+    /** A call again and again, with 0 and so on. */
+    static Consumer<DeedProofs> times(int count, BiConsumer<DeedProofs, Integer> call) {
+        return office -> {
+            for (int i = 0; i < count; i++) {
+                call.accept(office, i);
+            }
+        };
     }
 
     /**
@@ -87,9 +106,12 @@ final class Offices {
 
     static DeedProofs fullButTape() {
         DeedProofs office = new DeedProofs();
-        fillRules(office, 8);
+        for (int i = 0; i < 7; i++) {
+            Due.rule(office, "h(a,b,c)>m(b,a,c)");
+        }
+        fillRules(office, 1);
         for (int i = 0; i < 12; i++) {
-            Due.change(office, i % 8, 999, "s(a,b,c)>o(b,a,c)");
+            Due.change(office, 7, 999, "s(a,b,c)>o(b,a,c)");
         }
         for (int i = 0; i < 20; i++) {
             office.paper(Due.fact("s000") + i, i % 5);

@@ -70,6 +70,8 @@ public final class PapersEdgesTest {
         Due.is("a 21st", office.paper(7, 0), DeedProofs.FULL);
         Due.is("the last is there", office.of(19, 0), 7);
         Still.refused("a 21st", Offices::full, DeedProofs.FULL, full -> full.paper(7, 0));
+        Still.refused("a 21st beside all else", Offices.someAnd(Offices.times(16, (some, i) -> some.paper(7, i % 5))),
+                DeedProofs.FULL, full -> full.paper(7, 0));
         Supplier<DeedProofs> falsePapers = Offices.then(Offices::full, full -> full.shown(3, true));
         Still.refused("a 21st beside a false one", falsePapers, DeedProofs.FULL, full -> full.paper(7, 0));
     }

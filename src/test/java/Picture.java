@@ -71,7 +71,9 @@ final class Picture {
 
     private static void titles(DeedProofs office, StringBuilder seen) {
         for (int title = 0; title < office.count(5); title++) {
-            put(seen, office.stand(title, office.count(0)), office.stand(title, 999), office.carry(title, 0));
+            int today = office.count(0);
+            put(seen, office.stand(title, 0), office.stand(title, today - 1), office.stand(title, today),
+                    office.stand(title, 999), office.carry(title, 0));
             for (int other = 0; other < office.count(5); other++) {
                 put(seen, office.clash(title, other));
             }

@@ -62,9 +62,11 @@ public final class ProofsEdgesTest {
             Due.is("proof " + i, office.proof(i % 5), i);
         }
         Due.is("a 13th", office.proof(LINE), DeedProofs.FULL);
+        Supplier<DeedProofs> some = Offices.someAnd(Offices.times(3, (made, i) -> made.proof(i)));
         for (int kind = 0; kind < 5; kind++) {
             int wanted = kind;
             Still.refused("a 13th of kind " + kind, Offices::full, DeedProofs.FULL, full -> full.proof(wanted));
+            Still.refused("a 13th beside all else", some, DeedProofs.FULL, full -> full.proof(wanted));
         }
     }
 
@@ -188,6 +190,8 @@ public final class ProofsEdgesTest {
             Due.is("steps", office.as(9, kind), 12);
         }
         Still.refused("a 13th step", Offices::full, DeedProofs.FULL, office -> Offices.step(office, 11, 0, "0000", 1));
+        Supplier<DeedProofs> some = Offices.someAnd(Offices.times(12, (made, i) -> Offices.step(made, 3, 0, "1230", 0)));
+        Still.refused("a 13th step beside all else", some, DeedProofs.FULL, office -> Offices.step(office, 3, 0, "1230", 0));
     }
 
     /** lacks: "NONE; BAD: day." */

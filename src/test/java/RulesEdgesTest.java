@@ -122,6 +122,8 @@ public final class RulesEdgesTest {
             Due.is("the last " + n, fits.get().feed(0, n), 120);
             Still.refused("one less than " + n + " left", tight, DeedProofs.FULL, office -> office.feed(0, n));
             Still.refused(n + " to a full tape", Offices::full, DeedProofs.FULL, office -> office.feed(0, n));
+            Still.refused(n + " behind a rule", Offices.then(Offices::someWithTape, office -> Due.feed(office, "x".repeat(103))),
+                    DeedProofs.FULL, office -> office.feed(0, n));
         }
     }
 
@@ -298,6 +300,8 @@ public final class RulesEdgesTest {
         Supplier<DeedProofs> eight = Offices.then(DeedProofs::new, office -> Offices.fillRules(office, 8));
         Supplier<DeedProofs> fed = Offices.then(eight, office -> Due.feed(office, "s(a,b,c)&a<b>l(b,a,c)"));
         Still.refused("a ninth", fed, DeedProofs.FULL, DeedProofs::rule);
+        Still.refused("a ninth beside all else", Offices.someAnd(office -> Offices.fillRules(office, 5)), DeedProofs.FULL,
+                DeedProofs::rule);
         Still.refused("a ninth with a fault", Offices::full, DeedProofs.FULL, DeedProofs::rule);
         Still.refused("a ninth of no bytes", eight, DeedProofs.FULL, DeedProofs::rule);
         DeedProofs office = fed.get();
@@ -369,6 +373,9 @@ public final class RulesEdgesTest {
         };
         Supplier<DeedProofs> fed = Offices.then(twelve, office -> Due.feed(office, "o(a,b,c)&a<b>l(b,a,c)"));
         Still.refused("a thirteenth", fed, DeedProofs.FULL, office -> office.change(0, 0));
+        Supplier<DeedProofs> some = Offices.someAnd(
+                Offices.times(11, (office, i) -> Due.change(office, i % 3, 9 + i, "o(a,b,c)>l(a,b,c)")));
+        Still.refused("a thirteenth beside all else", some, DeedProofs.FULL, office -> office.change(0, 5));
         Still.refused("a thirteenth of the other", fed, DeedProofs.FULL, office -> office.change(1, 999));
         Still.refused("a thirteenth with a fault", Offices::full, DeedProofs.FULL, office -> office.change(0, 999));
         DeedProofs office = fed.get();

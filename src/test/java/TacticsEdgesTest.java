@@ -156,6 +156,8 @@ public final class TacticsEdgesTest {
             return office;
         };
         Still.refused("a seventh with a fault", six, DeedProofs.FULL, DeedProofs::tactic);
+        Still.refused("a seventh beside all else", Offices.someAnd(Offices.times(5, (some, i) -> Due.tactic(some, "0|1"))),
+                DeedProofs.FULL, DeedProofs::tactic);
         Still.refused("a seventh of all the tape", Offices::full, DeedProofs.FULL, DeedProofs::tactic);
         Still.refused("a seventh of no bytes", Offices::fullButTape, DeedProofs.FULL, DeedProofs::tactic);
         Supplier<DeedProofs> good = Offices.then(Offices::fullButTape, office -> Due.feed(office, "0"));
@@ -262,8 +264,14 @@ public final class TacticsEdgesTest {
             office.run(1, 1, 0);
             return office;
         };
+        Supplier<DeedProofs> some = Offices.then(Offices::unrun, office -> {
+            office.image();
+            office.day(1);
+            Due.feed(office, "s(a,b,c)>l(b,a,c)");
+        });
         for (int fact : new int[] {0, 1, 749}) {
             Still.refused("found " + fact, unrun, DeedProofs.STATE, office -> office.found(fact));
+            Still.refused("found " + fact + " beside all else", some, DeedProofs.STATE, office -> office.found(fact));
         }
         DeedProofs office = unrun.get();
         office.run(0, 1, 1);

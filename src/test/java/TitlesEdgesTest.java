@@ -94,6 +94,28 @@ public final class TitlesEdgesTest {
             Due.is("title " + i, office.title(i), i < 10 ? i : DeedProofs.FULL);
         }
         Still.refused("an 11th", Offices::full, DeedProofs.FULL, full -> full.title(10));
+        Still.refused("an 11th beside all else", TitlesEdgesTest::tenTitles, DeedProofs.FULL, full -> full.title(10));
+    }
+
+    /** 10 TITLES and a PROOF more, of an office with room for all else. */
+    private static DeedProofs tenTitles() {
+        DeedProofs office = new DeedProofs();
+        Due.rule(office, "s(a,b,c)>o(b,a,c)");
+        Due.change(office, 0, 9, "s(a,b,c)>o(b,a,c)");
+        Due.tactic(office, "0");
+        office.run(0, 1, 0);
+        office.day(1);
+        office.image();
+        for (int i = 0; i < 11; i++) {
+            office.paper(Due.fact("s000") + i, 0);
+            office.proof(i == 3 ? Offices.OPEN : Offices.LINE);
+            Offices.step(office, i, 0, "0" + i / 5 + i % 5 + "0", i);
+        }
+        for (int i = 0; i < 10; i++) {
+            office.title(i);
+        }
+        Due.feed(office, "s(a,b,c)>l(b,a,c)");
+        return office;
     }
 
     /** stand: "NONE" */
