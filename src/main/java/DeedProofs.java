@@ -34,7 +34,7 @@ public final class DeedProofs {
     private final Judge judge = new Judge(book);
     private final Reach reach = new Reach(book);
     private final Tactician tactician = new Tactician(book, reach);
-    private final RuleReader reader = new RuleReader();
+    private final RuleReader reader = new RuleReader(book);
     private final Line[] kinds = {new Line(), new Piece(), new Shared(), new Cut(), new Open()};
     private Book kept = null;
 
@@ -72,7 +72,7 @@ public final class DeedProofs {
         if (number >= MOST_RULES) {
             return FULL;
         }
-        int fault = readTape(book.texts[number]);
+        int fault = reader.read(book.texts[number]);
         if (fault >= 0) {
             return FAULTS - fault;
         }
@@ -91,7 +91,7 @@ public final class DeedProofs {
         if (number >= MOST_CHANGES) {
             return FULL;
         }
-        int fault = readTape(book.texts[MOST_RULES + number]);
+        int fault = reader.read(book.texts[MOST_RULES + number]);
         if (fault >= 0) {
             return FAULTS - fault;
         }
@@ -521,13 +521,6 @@ public final class DeedProofs {
         return kind >= 0 && kind < KINDS;
     }
 
-    /** THE TAPE is empty then, with a FAULT too. */
-    private int readTape(Text into) {
-        int fault = reader.read(book.tape, book.counts[BYTES], into);
-        book.counts[BYTES] = 0;
-        return fault;
-    }
-
     private boolean followsToday(int fact, int papers) {
         reach.spread(book.counts[TODAY], papers, false);
         return reach.has(fact);
@@ -628,22 +621,26 @@ public final class DeedProofs {
         }
     }
 
-    /** Reads RULES; where it can't go on, its place is the FAULT. */
+    /** Reads RULES from THE TAPE; where it can't go on, its place is the FAULT. */
     private static final class RuleReader {
         private static final int UNTOLD_LETTER = 200;
         private static final String SHAPES = "oshmlw", SIGNS = "<=#", ARG_SIGNS = "01234abcd";
 
-        private byte[] tape = new byte[0];
+        private final Book book;
         private int size = 0;
         private int at = 0;
         private Text text = new Text();
         /** Letters of the END and of TESTS, as bits. */
         private int askedLetters = 0;
 
-        /** The FAULT; -1: there is none, and the text is read. */
-        private int read(byte[] bytes, int count, Text into) {
-            tape = bytes;
-            size = count;
+        private RuleReader(Book office) {
+            book = office;
+        }
+
+        /** The FAULT; -1: there is none, and the text is read. THE TAPE is empty then, with a FAULT too. */
+        private int read(Text into) {
+            size = Math.min(book.counts[BYTES], book.tape.length);
+            book.counts[BYTES] = 0;
             at = 0;
             text = into;
             askedLetters = 0;
@@ -738,11 +735,11 @@ public final class DeedProofs {
 
         /** Where the byte that comes next stands among signs; -1: nowhere. */
         private int placeIn(String signs) {
-            if (at >= size || at >= tape.length) {
+            if (at >= size) {
                 return -1;
             }
             for (int i = 0; i < signs.length(); i++) {
-                if (signs.charAt(i) == tape[at]) {
+                if (signs.charAt(i) == book.tape[at]) {
                     return i;
                 }
             }
@@ -750,7 +747,7 @@ public final class DeedProofs {
         }
 
         private boolean skip(char sign) {
-            if (at >= size || at >= tape.length || tape[at] != sign) {
+            if (at >= size || book.tape[at] != sign) {
                 return false;
             }
             at++;

@@ -1,10 +1,13 @@
 import java.io.IOException;
+import java.lang.reflect.Constructor;
 import java.lang.reflect.Field;
 import java.lang.reflect.Method;
 import java.lang.reflect.Modifier;
 import java.nio.file.Files;
 import java.nio.file.Path;
+import java.util.ArrayList;
 import java.util.Arrays;
+import java.util.List;
 import java.util.TreeSet;
 import java.util.regex.Pattern;
 
@@ -21,10 +24,15 @@ public final class FaceTest {
     private static final String[] BANNED = {"throw", "try", "catch", "finally", "synchronized", "assert", "hashCode",
         "toString", "->", "::", "@", "Exception", "System\\.(?!arraycopy)", "Exact\\("};
 
+    /** LANGUAGE.md, rule 11: parameters of a method, and fields of a class beside its constants. */
+    private static final int MOST_PARAMETERS = 7, MOST_FIELDS = 20;
+
     public static void main(String[] args) throws IOException {
         constants();
         lastCall();
         face();
+        allIsPublic();
+        inside();
         source();
         Due.end();
     }
@@ -80,6 +88,45 @@ public final class FaceTest {
             }
         }
         Due.is("classes", DeedProofs.class.getDeclaredClasses().length <= 11 ? 1 : 0, 1);
+    }
+
+    /** "public final class DeedProofs", "public static final int NONE ..", "public DeedProofs()", "public int day(int n)" .. */
+    private static void allIsPublic() {
+        Due.is("the class", DeedProofs.class.getModifiers(), Modifier.PUBLIC | Modifier.FINAL);
+        Due.holds("it extends nothing", DeedProofs.class.getSuperclass() == Object.class);
+        Due.is("it implements nothing", DeedProofs.class.getInterfaces().length, 0);
+        Constructor<?> making = DeedProofs.class.getDeclaredConstructors()[0];
+        Due.is("the constructor", making.getModifiers(), Modifier.PUBLIC);
+        Due.is("its parameters", making.getParameterCount(), 0);
+        for (Method method : DeedProofs.class.getDeclaredMethods()) {
+            if (!Modifier.isPrivate(method.getModifiers())) {
+                Due.is(method.getName(), method.getModifiers(), Modifier.PUBLIC);
+            }
+        }
+        for (Field field : DeedProofs.class.getDeclaredFields()) {
+            if (!Modifier.isPrivate(field.getModifiers())) {
+                Due.is(field.getName(), field.getModifiers(), Modifier.PUBLIC | Modifier.STATIC | Modifier.FINAL);
+                Due.holds(field.getName() + " is an int", field.getType() == int.class);
+            }
+        }
+    }
+
+    private static void inside() {
+        List<Class<?>> classes = new ArrayList<>(Arrays.asList(DeedProofs.class.getDeclaredClasses()));
+        classes.add(DeedProofs.class);
+        for (Class<?> one : classes) {
+            int fields = 0;
+            for (Field field : one.getDeclaredFields()) {
+                boolean fixed = Modifier.isStatic(field.getModifiers());
+                fields += fixed ? 0 : 1;
+                Due.holds(one + " " + field.getName(), !fixed || Modifier.isFinal(field.getModifiers()));
+            }
+            Due.holds(one + " has " + fields + " fields", fields <= MOST_FIELDS);
+            for (Method method : one.getDeclaredMethods()) {
+                Due.holds(one + " " + method.getName(), method.getParameterCount() <= MOST_PARAMETERS);
+            }
+            Due.is("classes inside " + one, one == DeedProofs.class ? 0 : one.getDeclaredClasses().length, 0);
+        }
     }
 
     private static void source() throws IOException {

@@ -16,7 +16,9 @@ public final class FillEdgesTest {
         fillTheFirst();
         fillByItsOwnLetters();
         fillFromEndToEnd();
+        fillFromAStepThatLacks();
         fillATitle();
+        fillAnEnd();
         Due.end();
     }
 
@@ -196,6 +198,17 @@ public final class FillEdgesTest {
         }
     }
 
+    /** "from a PAPER, or an earlier STEP, that says the FACT of that TERM": it needn't be good. */
+    private static void fillFromAStepThatLacks() {
+        DeedProofs office = piece();
+        office.shown(4, true);
+        Due.is("the earlier step lacks", office.lacks(PROOF, 0, 5), 10);
+        Due.is("filled from it", office.fill(PROOF, 100), 2);
+        Due.is("what is made from it lacks", office.lacks(PROOF, 1, 5), 10);
+        office.shown(4, false);
+        Due.is("no more then", office.lacks(PROOF, 1, 5), 0);
+    }
+
     /** STATE is told for no other reason: a TITLE does not hinder it. */
     private static void fillATitle() {
         DeedProofs office = open();
@@ -203,5 +216,16 @@ public final class FillEdgesTest {
         Due.is("no step more", Offices.step(office, PROOF, 3, "1230", 4), DeedProofs.STATE);
         Due.is("filled", office.fill(PROOF, 4), 2);
         Due.is("stands", office.stand(2, 5), 1);
+    }
+
+    /** The same: nor does the use as an end. */
+    private static void fillAnEnd() {
+        DeedProofs office = open();
+        office.proof(Offices.CUT);
+        Offices.step(office, 10, 3, "1230", 200 + PROOF);
+        Due.is("no step more", Offices.step(office, PROOF, 3, "1230", 4), DeedProofs.STATE);
+        Due.is("leans ahead of it", office.leans(10), 1 << 4);
+        Due.is("filled", office.fill(PROOF, 6), 2);
+        Due.is("leans on what fills it", office.leans(10), 1 << 4 | 1 << 6);
     }
 }

@@ -376,12 +376,12 @@ final class Model {
         }
     }
 
-    /** Sizes by lowering them till none can be lowered. */
     /** Of what follows today, how high it is. */
     Map<Integer, Integer> heightsToday() {
         return heights(today, good());
     }
 
+    /** Sizes by lowering them till none can be lowered. */
     private Map<Integer, Integer> sizes(int day) {
         Map<Integer, Integer> sizes = new HashMap<>();
         for (int fact : factsOf(good())) {

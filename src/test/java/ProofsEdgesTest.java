@@ -34,6 +34,7 @@ public final class ProofsEdgesTest {
         takenWithHoles();
         leansRefused();
         leansOnAllTerms();
+        papersThatComeLater();
         holeRefused();
         holesByTheirOrder();
         actOfNone();
@@ -517,6 +518,21 @@ public final class ProofsEdgesTest {
             Offices.step(office, proof, 0, "1230", 16, 16, 16);
             Due.is("by an end as term " + term, office.leans(proof), office.leans(0) | 1 << 16);
         }
+    }
+
+    /** "none such": till the PAPER of that number comes; a STEP is taken from it then. */
+    private static void papersThatComeLater() {
+        DeedProofs office = new DeedProofs();
+        Due.rule(office, "o(a,b,c)>s(a,b,c)");
+        office.paper(Due.fact("w000"), 0);
+        office.proof(LINE);
+        Offices.step(office, 0, 0, "1230", 1);
+        Due.is("none such", office.lacks(0, 0, 0), 10);
+        Due.is("leans on none", office.leans(0), 0);
+        office.paper(Due.fact("o123"), 0);
+        Due.is("it came", office.lacks(0, 0, 0), 0);
+        Due.is("taken", office.check(0, 0), 1);
+        Due.is("leans on it", office.leans(0), 2);
     }
 
     /** hole: "NONE." "NONE there is no such .. i" */
